@@ -898,7 +898,7 @@ public final class TwoOnACable {
             first = load.weighsIn(0, cable.hours);
             both = first + load.weighsIn(1, cable.hours);
             staying = 0;
-            for (int i = 0; i < MOST_THINGS && i < weighs.length && i < gains.length; i++) {
+            for (int i = 0; i < weighs.length && i < gains.length; i++) {
                 Thing thing = load.at(i);
                 if (thing == null || !thing.goesAcross(turns)) {
                     staying |= 1 << i;

@@ -51,13 +51,13 @@ final class AllTest {
         TwoOnACable x = Check.wired("30:4:999");
         x.image();
         x.hour(0);
-        x.thing(0, 3, 0);
+        x.thing(0, 3, 1);
         C.due("another", x.image(), 1);
         x.hour(0);
         x.carry(0);
         C.due("the latest", x.restore(), 1);
         C.due("its THINGS", x.count(9), 1);
-        C.due("its CABIN", x.about(0, 2), 0);
+        C.due("its CABIN", x.about(0, 2), 1);
     }
 
     private static void imageOfABrokenOne() {
@@ -136,6 +136,15 @@ final class AllTest {
             400, 1600, 1999, 'z',
             20, 4, 1600, 19, 100, 1, 0, 0, 0, 1, 1, 1, 1};
         C.due("digest() of a whole one", x.digest(), digestOf(whole));
+        // ARM 10 * 10 / 25 is 4; a FLOOR of 100 is had; even is 100 against 150, or the other way.
+        TwoOnACable just = Check.wired("10:5:999");
+        just.thing(0, 5, 0);
+        long[] had = {15, 4, 100, 1, 10, 6, 150, 0,
+            0, 5, 0, 5, 0,
+            50, 0, 0, -1, 1, 1,
+            14400, 1, 14400,
+            10, 5, 500, 15, 999, 0, 0, 0, 0, 1, 0, 1, 0};
+        C.due("digest() with a FLOOR of 100", just.digest(), digestOf(had));
         TwoOnACable y = Check.wired("10:9:100");
         y.thing(0, 20, 0);
         y.thing(0, 20, 1);

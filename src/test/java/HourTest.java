@@ -111,6 +111,12 @@ final class HourTest {
         z.thing(0, 10, 0);
         // The COOK's 10 are like the THING's: least bits, not least WEIGHT as it came.
         C.due("what they weigh now", z.even(1), 1);
+        TwoOnACable less = Check.wired("20:2:999");
+        less.thing(0, 9, 0);
+        less.thing(0, 1, 0);
+        // 11 and 19: ARMS 12 and 8; by the 1 alone 7 and 13.
+        C.due("how near goes ahead of the least WEIGHT", less.even(1), 1);
+        C.due("12 and 8 are 16 apart", less.even(0), 16);
         TwoOnACable near = Check.wired("11:1:999");
         C.due("an odd LENGTH is not even", near.even(0), 1);
     }
@@ -128,6 +134,10 @@ final class HourTest {
         y.thing(2, 20, 0);
         y.thing(0, 20, 0);
         C.due("a GUEST goes at 2", y.even(1), 1);
+        y.hour(3);
+        y.hour(1);
+        C.due("TURNS at 16", y.count(1), 3);
+        C.due("he goes no more", y.even(1), 2);
     }
 
     private static void soonest() {
@@ -139,6 +149,9 @@ final class HourTest {
         C.due("26 and 13 is 39, not 40: at 19, 9 * 4", x.soonest(26, 0), 1);
         C.due("60 to 90: at 16, 8 * 9", x.soonest(60, 0), 2);
         C.due("60 to 90: by the least first", x.soonest(60, 1), 1);
+        C.due("12: at 24, by 1 and by 3", x.soonest(12, 0), 2);
+        C.due("12: by the least first, and none is by 4", x.soonest(12, 1), 4);
+        C.due("9999 is asked for, not had", x.soonest(9999, 0), NONE);
         C.due("10: let out by one", x.soonest(10, 0), 1);
         C.due("10: it is 4", x.soonest(10, 1), 4);
         C.due("1 is had nowhere", x.soonest(1, 0), NONE);
@@ -163,6 +176,18 @@ final class HourTest {
         C.due("FLOOR at 40", y.cabin(0, 2), 20);
         C.due("22: as HENS weigh 2 more in 6 HOURS", y.soonest(22, 0), 6);
         C.due("by staying first", y.soonest(22, 1), 0);
+        // 15 against 10 in 12 HOURS: 24, which no LENGTH has before.
+        C.due("24: in just 12", y.soonest(24, 0), 12);
+        Check.hours(y, 0, 5);
+        C.due("24: in 7 more", y.soonest(24, 0), 7);
+        // 17 against 10 in 18 HOURS: 25.
+        C.due("25: it would be 13", y.soonest(25, 0), NONE);
+        TwoOnACable z = Check.wired("40:9:999");
+        z.thing(4, 10, 0);
+        C.due("40 * 10 / 30 is 13", z.cabin(0, 2), 1053);
+        // 640 to 960: at 38 it is 12 * 81, still too much; HENS weigh 2 more in 6 HOURS: 11 * 81.
+        C.due("640: as HENS grow in CABIN 0", z.soonest(640, 0), 6);
+        C.due("640: by staying first", z.soonest(640, 1), 0);
     }
 
     private static void caught() {

@@ -76,6 +76,9 @@ final class WeighedTest {
         last(x, 4, 194481, 390625);
         // 16 of 999 is 1.6 hundredths.
         last(Check.wired("20:4:999o"), 2, 9801, 10000);
+        // 4 of 200 is 2 hundredths: 98 by 100.
+        last(Check.wired("20:2:200o"), 1, 49, 50);
+        last(Check.wired("20:2:200o"), 3, 117649, 125000);
         // 1 of 999: no hundredth.
         last(Check.wired("20:1:999o"), 4, 1, 1);
         TwoOnACable firm = Check.wired("20:4:100");
