@@ -256,7 +256,7 @@ public final class TwoOnACable {
         if (!cable.isWhole()) {
             return STATE;
         }
-        int holding = HUNDRED - cable.breakingHundredths(load);
+        int holding = HUNDRED - cable.breakingHundredths(cable.strainNow(load));
         // A fraction in lowest terms stays so when it is taken times itself.
         int base = part == 0 ? reduced(holding, HUNDRED) : reduced(HUNDRED, holding);
         return power(base, hours);
@@ -609,7 +609,7 @@ public final class TwoOnACable {
         }
 
         int turnsAt(int some) {
-            return isLength(some) ? spin / (some * some) : 0;
+            return some >= SHORTEST && some <= LONGEST ? spin / (some * some) : 0;
         }
 
         int turnsNow() {
@@ -627,8 +627,8 @@ public final class TwoOnACable {
             return armAt(cabin, some, first, second) * turns * turns;
         }
 
-        int strainAt(int some, int first, int second) {
-            return first * floorAt(0, some, first, second) / 100;
+        int strainBy(int weighs, int floor) {
+            return weighs * floor / HUNDRED;
         }
 
         int armNow(int cabin, Load load) {
@@ -640,7 +640,8 @@ public final class TwoOnACable {
         }
 
         int strainNow(Load load) {
-            return strainAt(length, load.weighsIn(0, hours), load.weighsIn(1, hours));
+            int first = load.weighsIn(0, hours);
+            return strainBy(first, floorAt(0, length, first, load.weighsIn(1, hours)));
         }
 
         int placeAfter(int more) {
@@ -654,8 +655,7 @@ public final class TwoOnACable {
             broken = strainNow(load) > bears;
         }
 
-        int breakingHundredths(Load load) {
-            int strain = strainNow(load);
+        int breakingHundredths(int strain) {
             if (!old || bears < 1) {
                 return strain > bears ? HUNDRED : 0;
             }
@@ -729,11 +729,7 @@ public final class TwoOnACable {
         }
 
         int weighs(int hours) {
-            return weight + grown(hours);
-        }
-
-        final int grown(int hours) {
-            return hoursHere(hours) / GROWING_HOURS;
+            return weight + (hours - came) / GROWING_HOURS;
         }
     }
 
@@ -747,7 +743,7 @@ public final class TwoOnACable {
         }
 
         int weighs(int hours) {
-            return weight + 2 * grown(hours);
+            return weight + 2 * ((hours - came) / GROWING_HOURS);
         }
     }
 
@@ -985,8 +981,9 @@ public final class TwoOnACable {
 
         private void dropBroken(Cable cable, int weighs0, int weighs1) {
             for (int i = 0; i < now.length; i++) {
-                if (now[i] < WAYS && cable.strainAt(i, weighs0, weighs1) > cable.bears) {
-                    now[i] = WAYS;
+                if (now[i] < WAYS) {
+                    int had = cable.floorAt(0, i, weighs0, weighs1);
+                    now[i] = cable.strainBy(weighs0, had) > cable.bears ? WAYS : now[i];
                 }
             }
         }

@@ -2,13 +2,20 @@
 final class Check {
     private int passed = 0;
     private int wrong = 0;
+    private String words = "";
+
+    /** The words of the document that the checks behind it are of: a wrong answer is told with them. */
+    void of(String someWords) {
+        words = someWords;
+    }
 
     void due(String what, long got, long want) {
         if (got == want) {
             passed++;
         } else {
             wrong++;
-            System.out.println("wrong: " + what + " answered " + got + ", due is " + want);
+            System.out.println("wrong: " + what + " answered " + got + ", due is " + want
+                + (words.isEmpty() ? "" : ": " + words));
         }
     }
 
