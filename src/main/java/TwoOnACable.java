@@ -983,7 +983,9 @@ public final class TwoOnACable {
             for (int i = 0; i < now.length; i++) {
                 if (now[i] < WAYS) {
                     int had = cable.floorAt(0, i, weighs0, weighs1);
-                    now[i] = cable.strainBy(weighs0, had) > cable.bears ? WAYS : now[i];
+                    if (cable.strainBy(weighs0, had) > cable.bears) {
+                        now[i] = WAYS;
+                    }
                 }
             }
         }
